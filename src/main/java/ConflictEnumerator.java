@@ -485,7 +485,6 @@ public final class ConflictEnumerator {
             }
             positive = 0;
             negative = 0;
-            bound = 0;
             weight = DEFAULT_WEIGHT;
             if (token == HARD) {
                 weight = HARD_WEIGHT;

@@ -115,6 +115,7 @@ public final class PromiseTest {
             "or1;" + (char) 160, "4", "or1" + (char) 96 + ";", "3", "or1" + (char) 123 + ";", "3", "or/", "2",
             "or:", "2", "w", "0", "w1;", "0", ten + "or1;", "40", ten + " x", "41", ten + ";", "40", ten + "hard", "40",
             ten + "  1", "42", "or1" + " ".repeat(117), "120", "or7 Q", "2", "x or7", "0",
+            "orz1;", "0", "ora1;", "0", "zor1;", "0", "or1w1-2;", "5", "or1w1hard;", "5", "or1;or2;hard xor3w1;", "17",
         };
         for (int i = 0; i + 1 < wrong.length; i += 2) {
             int answer = -10 - Integer.parseInt(wrong[i + 1]);
@@ -311,6 +312,10 @@ public final class PromiseTest {
         loaded("promise 27, low tie", LOW_HUB, 3).due("heaviestSatisfiable() = 1; setWeight(0, 2) = 3; heaviestSatisfiable() = 6");
         loaded("promise 27, high tie", HIGH_HUB, 3).due("heaviestSatisfiable() = 3; setWeight(2, 4) = 3; heaviestSatisfiable() = 4");
         loaded("promise 27, hard conflict", HARD_CONFLICT, 3).due("heaviestSatisfiable() = -9");
+        loaded("promise 27, the first assignment alone", "most0 1 2 3 4 5 6;or1 2 3 4 5 6w2;", 2).due("heaviestSatisfiable() = 2; "
+            + "setHard(0, 1) = 1; heaviestSatisfiable() = 0; setHard(1, 1) = 0; heaviestSatisfiable() = -9; remove(1) = 1; "
+            + "heaviestSatisfiable() = 0");
+        loaded("promise 27, the last assignment alone", "hard most0-1-2-3-4-5-6;or6;", 2).due("heaviestSatisfiable() = 2");
         loaded("promise 27, hard alone", "hard or1;", 1).due("heaviestSatisfiable() = 0");
     }
 
