@@ -82,6 +82,8 @@ public final class PromiseTest {
     private static void clearText() {
         Script script = Script.of("promise 3").text("or1;");
         script.due("clearText() = 4; clearText() = 0; load() = 0; undoDepth() = 1; append(59) = 1; clearText() = 1");
+        Script.of("promise 3, nothing is left of the old text").text("orx1;").due("clearText() = 5").load("or", -12)
+            .due("clearText() = 2").text("or").due("append(49) = 3; load() = -13");
         loaded("promise 3, state kept", "or1;", 1).text("or2").due("clearText() = 3; constraintCount() = 1; undoDepth() = 1");
     }
 
