@@ -51,14 +51,11 @@ public final class PromiseTest {
     }
 
     private static Script loaded(String name, String system, int count) {
-        return Script.of(name).load(system, count);
+        return Script.loaded(name, system, count);
     }
 
-    /** Calls a method with each wrong argument. */
     private static void invalid(Script script, String method, int... arguments) {
-        for (int argument : arguments) {
-            script.due(method + "(" + argument + ") = -1");
-        }
+        script.invalid(method, arguments);
     }
 
     private static void newObject() {

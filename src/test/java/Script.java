@@ -1,18 +1,18 @@
-import java.lang.reflect.InvocationTargetException;
-import java.lang.reflect.Method;
-import java.util.regex.Matcher;
-import java.util.regex.Pattern;
+import java.util.ArrayList;
+import java.util.List;
 
 /**
  * Plays calls on one object and compares the answers with those that are due. Calls are written as
  * in the document: "load() = 2; setWeight(0, 3) = 1".
  */
 final class Script {
-    private static final Pattern CALL = Pattern.compile("(\\w+)\\(([^)]*)\\)\\s*=\\s*(-?\\d+)");
+    /** What later calls answer is free. */
+    private static final int CALL_LIMIT = 512;
     private static int wrong = 0;
 
     private final String name;
     private final ConflictEnumerator object = new ConflictEnumerator();
+    private final List<Call> played = new ArrayList<>();
 
     private Script(String name) {
         this.name = name;
@@ -23,6 +23,11 @@ final class Script {
         return new Script(name);
     }
 
+    /** A script on a new object that has loaded a system, which must answer as given. */
+    static Script loaded(String name, String system, int answer) {
+        return of(name).load(system, answer);
+    }
+
     /** Ends the test with exit code 1 if some answer was not due. */
     static void end() {
         if (wrong > 0) {
@@ -31,7 +36,7 @@ final class Script {
         }
     }
 
-    static void expect(String what, long got, long want) {
+    private static void expect(String what, long got, long want) {
         if (got != want) {
             wrong++;
             System.out.println(what + " answered " + got + ", due is " + want);
@@ -41,8 +46,8 @@ final class Script {
     /** Appends the characters to an empty text. */
     Script text(String characters) {
         for (int i = 0; i < characters.length(); i++) {
-            int code = characters.charAt(i);
-            expect(name + ": append(" + code + ")", object.append(code), i + 1);
+            Call call = Call.of("append", characters.charAt(i));
+            expect(name + ": " + call, play(call), i + 1);
         }
         return this;
     }
@@ -50,45 +55,74 @@ final class Script {
     /** Appends the characters to an empty text and loads them, which must answer as given. */
     Script load(String characters, int answer) {
         text(characters);
-        expect(name + ": load() of \"" + characters + "\"", object.load(), answer);
+        expect(name + ": load() of \"" + characters + "\"", play(Call.of("load")), answer);
         return this;
+    }
+
+    /** Appends the characters to an empty text, which must then be wrong at the position. */
+    Script wrongAt(String characters, int position) {
+        return load(characters, -10 - position);
     }
 
     Script due(String calls) {
-        Matcher matcher = CALL.matcher(calls);
-        int end = 0;
-        while (matcher.find()) {
-            requireGap(calls.substring(end, matcher.start()));
-            end = matcher.end();
-            String call = matcher.group(1) + "(" + matcher.group(2) + ")";
-            int want = Integer.parseInt(matcher.group(3));
-            expect(name + ": " + call, call(matcher.group(1), matcher.group(2)), want);
+        for (Call call : Call.read(calls)) {
+            expect(name + ": " + call, play(call), call.due());
         }
-        requireGap(calls.substring(end));
         return this;
     }
 
-    private static void requireGap(String gap) {
-        if (!gap.isEmpty() && !gap.matches("[;.\\s]+")) {
-            throw new IllegalArgumentException("not a call: " + gap);
+    /** Plays calls none of which may change anything that can be seen of the object. */
+    Script unchanged(String calls) {
+        for (Call call : Call.read(calls)) {
+            compareWithTwin(call);
+            expect(name + ": " + call, play(call), call.due());
+        }
+        return this;
+    }
+
+    /** Calls a method of one argument with each wrong argument; nothing may change. */
+    Script invalid(String method, int... arguments) {
+        for (int argument : arguments) {
+            unchanged(method + "(" + argument + ") = -1");
+        }
+        return this;
+    }
+
+    private int play(Call call) {
+        if (played.size() >= CALL_LIMIT) {
+            throw new IllegalStateException(name + ": more calls than the document speaks of");
+        }
+        played.add(call);
+        return call.on(object);
+    }
+
+    /** Two objects with the same past, of which one hears the call too, must look alike to every probe. */
+    private void compareWithTwin(Call call) {
+        List<Call> longer = new ArrayList<>(played);
+        longer.add(call);
+        for (List<Call> probe : Probe.ALL) {
+            if (longer.size() + probe.size() > CALL_LIMIT) {
+                throw new IllegalStateException(name + ": too long for a probe");
+            }
+            List<Integer> without = answers(played, probe);
+            List<Integer> with = answers(longer, probe);
+            boolean alike = true;
+            for (int i = 0; i < probe.size() && alike; i++) {
+                expect(name + ": after " + call + " " + probe.get(i), with.get(i), without.get(i));
+                alike = with.get(i).equals(without.get(i));
+            }
         }
     }
 
-    private int call(String method, String arguments) {
-        String[] parts = arguments.isBlank() ? new String[0] : arguments.split(",");
-        Class<?>[] types = new Class<?>[parts.length];
-        Object[] values = new Object[parts.length];
-        for (int i = 0; i < parts.length; i++) {
-            types[i] = int.class;
-            values[i] = Integer.parseInt(parts[i].trim());
+    private static List<Integer> answers(List<Call> past, List<Call> probe) {
+        ConflictEnumerator twin = new ConflictEnumerator();
+        for (Call call : past) {
+            call.on(twin);
         }
-        try {
-            Method found = ConflictEnumerator.class.getMethod(method, types);
-            return (Integer) found.invoke(object, values);
-        } catch (NoSuchMethodException | IllegalAccessException e) {
-            throw new IllegalArgumentException("no such call: " + method, e);
-        } catch (InvocationTargetException e) {
-            throw new IllegalStateException(name + ": " + method + " threw", e.getCause());
+        List<Integer> answers = new ArrayList<>();
+        for (Call call : probe) {
+            answers.add(call.on(twin));
         }
+        return answers;
     }
 }
