@@ -41,35 +41,40 @@ public final class TextBoundaryTest {
 
     /** The text is read as so many constraints, and is then gone. */
     private static Script valid(String sentence, String text, int constraints) {
-        return Script.loaded(sentence, text, constraints).due("constraintCount() = " + constraints + "; undoDepth() = 1; clearText() = 0");
+        return Script.loaded(sentence, text, constraints).due("constraintCount() = " + constraints + "; undoDepth() = 1; "
+            + "clearText() = 0");
     }
 
     /** The text is refused at the position, and is kept. */
     private static void wrong(String sentence, String text, int position) {
-        Script.of(sentence).wrongAt(text, position)
-            .due("constraintCount() = 0; undoDepth() = 0; clearText() = " + text.length() + "; load() = 0");
+        Script.of(sentence).wrongAt(text, position).due("constraintCount() = 0; undoDepth() = 0; clearText() = " + text.length()
+            + "; load() = 0");
     }
 
     private static void characterCodes() {
-        Script.of("character code, 0 to 255").invalid("append", -1, 256, -2, 257, LEAST, GREATEST)
-            .due("append(0) = 1; append(1) = 2; append(254) = 3; append(255) = 4").invalid("append", -1, 256).due("clearText() = 4");
+        Script.of("character code, 0 to 255").invalid("append", -1, 256, -2, 257, LEAST, GREATEST).due("append(0) = 1; "
+            + "append(1) = 2; append(254) = 3; append(255) = 4").invalid("append", -1, 256).due("clearText() = 4");
         // 256 + 59 would be a ";" if only the low eight bits were kept.
-        Script.of("character code, not cut to eight bits").text("or1").invalid("append", 256 + 59, 59 - 256, 65536 + 59).due("load() = -13");
+        Script.of("character code, not cut to eight bits").text("or1").invalid("append", 256 + 59, 59 - 256, 65536 + 59)
+            .due("load() = -13");
     }
 
     private static void textLimit() {
         String sentence = "A system is read from a text of at most 120 characters";
-        Script.of(sentence).text(" ".repeat(118)).due("append(32) = 119; append(32) = 120").unchanged("append(32) = -3; append(59) = -3; "
-            + "append(0) = -3; append(255) = -3").due("clearText() = 120; append(32) = 1; clearText() = 1");
+        Script.of(sentence).text(" ".repeat(118)).due("append(32) = 119; append(32) = 120").unchanged("append(32) = -3; "
+            + "append(59) = -3; append(0) = -3; append(255) = -3").due("clearText() = 120; append(32) = 1; clearText() = 1");
         Script.of("If several error conditions apply: append").text(" ".repeat(120)).invalid("append", -1, 256, LEAST, GREATEST)
             .due("append(255) = -3");
     }
 
     private static void refusedAtTheLimit() {
-        Script.of("a refused character is not kept").text(" ".repeat(119)).due("append(120) = 120; append(32) = -3; load() = -129");
-        Script.of("a refused ; does not end the constraint").text("or1" + " ".repeat(117)).due("append(59) = -3; load() = -130; clearText() = 120");
+        Script.of("a refused character is not kept").text(" ".repeat(119)).due("append(120) = 120; append(32) = -3; "
+            + "load() = -129");
+        Script.of("a refused ; does not end the constraint").text("or1" + " ".repeat(117)).due("append(59) = -3; load() = -130; "
+            + "clearText() = 120");
         Script.of("a load makes room").text(" ".repeat(120)).due("append(32) = -3; load() = 0; append(32) = 1");
-        Script.of("a failed load makes no room").text("x" + " ".repeat(119)).due("load() = -10; append(32) = -3; clearText() = 120; append(32) = 1");
+        Script.of("a failed load makes no room").text("x" + " ".repeat(119)).due("load() = -10; append(32) = -3; "
+            + "clearText() = 120; append(32) = 1");
     }
 
     private static void fullTextIsRead() {
@@ -85,11 +90,12 @@ public final class TextBoundaryTest {
     }
 
     private static void clearText() {
-        Script.of("Returns the previous length of the text").due("clearText() = 0; clearText() = 0; append(59) = 1; clearText() = 1; clearText() = 0")
-            .text("x".repeat(119)).due("clearText() = 119").text("x".repeat(120)).due("clearText() = 120; clearText() = 0; load() = 0");
+        Script.of("Returns the previous length of the text").due("clearText() = 0; clearText() = 0; append(59) = 1; "
+            + "clearText() = 1; clearText() = 0").text("x".repeat(119)).due("clearText() = 119").text("x".repeat(120))
+            .due("clearText() = 120; clearText() = 0; load() = 0");
         Script.of("clearText on an empty text changes nothing").unchanged("clearText() = 0");
-        Script.loaded("clearText changes no state", "or1;or-1;", 2).due("step() = 2; save(0) = 2").text("or").due("clearText() = 2; musCount() = 1; "
-            + "undoDepth() = 2; constraintCount() = 2; restore(0) = 2; restore(1) = -2");
+        Script.loaded("clearText changes no state", "or1;or-1;", 2).due("step() = 2; save(0) = 2").text("or")
+            .due("clearText() = 2; musCount() = 1; undoDepth() = 2; constraintCount() = 2; restore(0) = 2; restore(1) = -2");
     }
 
     private static void emptyText() {
@@ -97,14 +103,15 @@ public final class TextBoundaryTest {
         valid(sentence, "", 0).due("softConstraints() = 0; unexploredCount() = 1; seed() = 0; undo() = 0");
         valid(sentence + " (one space)", " ", 0);
         valid(sentence + " (120 spaces)", " ".repeat(120), 0);
-        Script.loaded(sentence, "or1;hard or2;", 2).due("finish() = 1; save(0) = 2; save(1) = 2; load() = 0; constraintCount() = 0; "
-            + "softConstraints() = 0; mssCount() = 0; musCount() = 0; restore(0) = -2; restore(1) = -2; undoDepth() = 3; undo() = 2; "
-            + "constraintCount() = 2; mssCount() = 1");
+        Script.loaded(sentence, "or1;hard or2;", 2).due("finish() = 1; save(0) = 2; save(1) = 2; load() = 0; "
+            + "constraintCount() = 0; softConstraints() = 0; mssCount() = 0; musCount() = 0; restore(0) = -2; restore(1) = -2; "
+            + "undoDepth() = 3; undo() = 2; constraintCount() = 2; mssCount() = 1");
     }
 
     private static void numberOfConstraints() {
         for (int count = 0; count <= 10; count++) {
-            valid("A system has 0 to 10 constraints", "or1;".repeat(count), count).due("softConstraints() = " + ((1 << count) - 1));
+            valid("A system has 0 to 10 constraints", "or1;".repeat(count), count).due("softConstraints() = "
+                + ((1 << count) - 1));
             valid("A system has 0 to 10 constraints (all hard)", "hard or1;".repeat(count), count).due("softConstraints() = 0");
         }
         valid("ten constraints, then spaces", "or1;".repeat(10) + "   ", 10);
@@ -116,7 +123,8 @@ public final class TextBoundaryTest {
     private static void eleventhConstraint() {
         String sentence = "the first token of an eleventh constraint";
         String ten = "or1;".repeat(10);
-        for (String more : new String[] {"or1;", "xor1;", "most1 1;", "hard or1;", "hard", "or", "x", "w", "-", ";", "1", "0", "A", "\t"}) {
+        String[] beginnings = {"or1;", "xor1;", "most1 1;", "hard or1;", "hard", "or", "x", "w", "-", ";", "1", "0", "A", "\t"};
+        for (String more : beginnings) {
             wrong(sentence, ten + more, 40);
             wrong(sentence + ", behind a space", ten + " " + more, 41);
             wrong(sentence + ", behind spaces", ten + "  " + more + "  ", 42);
@@ -172,7 +180,8 @@ public final class TextBoundaryTest {
         wrong(sentence, "or1w0;", 4);
         wrong(sentence + " (negative)", "or1w-1;", 4);
         wrong(sentence + " (absent)", "or1w;", 4);
-        valid("the weight is 1 if \"w\" is absent", "or1w9;or1;or1w2;most11;", 4).due("weight(0) = 9; weight(1) = 1; weight(2) = 2; weight(3) = 1");
+        valid("the weight is 1 if \"w\" is absent", "or1w9;or1;or1w2;most11;", 4).due("weight(0) = 9; weight(1) = 1; "
+            + "weight(2) = 2; weight(3) = 1");
     }
 
     private static void hardHasNoWeight() {
@@ -181,16 +190,18 @@ public final class TextBoundaryTest {
         wrong("a hard constraint is not hard twice", "hard hard or1;", 5);
         wrong("\"hard\" stands before the body", "or1 hard;", 4);
         wrong("\"hard\" needs a body", "hard;", 4);
-        valid("a soft constraint may follow a hard one", "hard or1;or2w3;hard or3;or4;", 4)
-            .due("weight(0) = 0; weight(1) = 3; weight(2) = 0; weight(3) = 1; softConstraints() = 10");
+        valid("a soft constraint may follow a hard one", "hard or1;or2w3;hard or3;or4;", 4).due("weight(0) = 0; weight(1) = 3; "
+            + "weight(2) = 0; weight(3) = 1; softConstraints() = 10");
     }
 
     private static void variable() {
         String sentence = "The digit of a literal is its variable and must be 1 to 6";
         for (int digit = 1; digit <= 6; digit++) {
             int alone = 1 << digit - 1;
-            valid(sentence, "or" + digit + ";", 1).due("firstModel(1) = " + alone + "; violated(" + alone + ") = 0; violated(" + (63 - alone) + ") = 1");
-            valid("a \"-\" negates it", "or-" + digit + ";", 1).due("firstModel(1) = 0; violated(" + alone + ") = 1; violated(" + (63 - alone) + ") = 0");
+            valid(sentence, "or" + digit + ";", 1).due("firstModel(1) = " + alone + "; violated(" + alone + ") = 0; violated("
+                + (63 - alone) + ") = 1");
+            valid("a \"-\" negates it", "or-" + digit + ";", 1).due("firstModel(1) = 0; violated(" + alone + ") = 1; violated("
+                + (63 - alone) + ") = 0");
         }
         for (int digit : new int[] {0, 7, 8, 9}) {
             wrong(sentence, "or" + digit + ";", 2);
@@ -333,10 +344,12 @@ public final class TextBoundaryTest {
     private static void spaces() {
         String sentence = "Spaces (code 32) may stand before, between and after tokens and are otherwise ignored.";
         for (String text : new String[] {
-            "hard most1-1 2;xor3-4w5;", "  hard  most  1  -  1  2  ;  xor  3  -  4  w  5  ;  ", "hard most1-12;xor3-4w5;    ", "    hard most1-12;xor3-4w5;",
+            "hard most1-1 2;xor3-4w5;", "  hard  most  1  -  1  2  ;  xor  3  -  4  w  5  ;  ", "hard most1-12;xor3-4w5;    ",
+            "    hard most1-12;xor3-4w5;",
             "hard most1-12;    xor3-4w5;",
         }) {
-            valid(sentence, text, 2).due("softConstraints() = 2; weight(1) = 5; violated(0) = 0; violated(2) = 1; violated(4) = 2; violated(10) = 3");
+            valid(sentence, text, 2).due("softConstraints() = 2; weight(1) = 5; violated(0) = 0; violated(2) = 1; "
+                + "violated(4) = 2; violated(10) = 3");
         }
         for (char sign : new char[] {0, 9, 10, 11, 12, 13, 31, 33, 127, 128, 160, 255}) {
             wrong("no other sign is a space", "or" + sign + "1;", 2);
@@ -348,7 +361,8 @@ public final class TextBoundaryTest {
     private static void endInsideAConstraint() {
         String sentence = "If the text ends inside a constraint, the error position is the length of the text.";
         for (String text : new String[] {
-            "hard", "hard or", "hard or1", "hard or1 -", "or", "xor", "most", "most0", "most6", "or-", "or1", "or1-", "or1 2", "or1w", "or1w1", "or123456",
+            "hard", "hard or", "hard or1", "hard or1 -", "or", "xor", "most", "most0", "most6", "or-", "or1", "or1-", "or1 2",
+            "or1w", "or1w1", "or123456",
             "or123456-", "or1;or", "or1;or2;hard", "or1;most", "or1;or1;or1;or1;or1;or1;or1;or1;or1;or",
         }) {
             wrong(sentence, text, text.length());
@@ -377,11 +391,12 @@ public final class TextBoundaryTest {
 
     private static void successfulLoad() {
         Script.loaded("Both lists, both snapshot slots and the text become empty. The strategy does not change.", "or1;or-1;or2;", 3)
-            .due("setStrategy(1) = 0; finish() = 3; musCount() = 1; mssCount() = 2; save(0) = 3; save(1) = 3").load("hard or3;or4w2;", 2)
-            .due("clearText() = 0; musCount() = 0; mssCount() = 0; mus(0) = -9; mss(0) = -9; unexploredCount() = 2; restore(0) = -2; restore(1) = -2; "
-            + "setStrategy(1) = -2; weight(0) = 0; weight(1) = 2; weight(2) = -1; softConstraints() = 2; violated(0) = 3");
-        Script.loaded("a load replaces all constraints", "or1;".repeat(10), 10).load("or2w5;", 1)
-            .due("constraintCount() = 1; softConstraints() = 1; weight(1) = -1; weight(0) = 5; violated(0) = 1; violated(2) = 0; undoDepth() = 2");
+            .due("setStrategy(1) = 0; finish() = 3; musCount() = 1; mssCount() = 2; save(0) = 3; save(1) = 3")
+            .load("hard or3;or4w2;", 2).due("clearText() = 0; musCount() = 0; mssCount() = 0; mus(0) = -9; mss(0) = -9; "
+            + "unexploredCount() = 2; restore(0) = -2; restore(1) = -2; setStrategy(1) = -2; weight(0) = 0; weight(1) = 2; "
+            + "weight(2) = -1; softConstraints() = 2; violated(0) = 3");
+        Script.loaded("a load replaces all constraints", "or1;".repeat(10), 10).load("or2w5;", 1).due("constraintCount() = 1; "
+            + "softConstraints() = 1; weight(1) = -1; weight(0) = 5; violated(0) = 1; violated(2) = 0; undoDepth() = 2");
     }
 
     private static void failedLoad() {
