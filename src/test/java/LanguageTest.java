@@ -1,24 +1,35 @@
 import java.io.IOException;
+import java.lang.reflect.Constructor;
+import java.lang.reflect.Field;
+import java.lang.reflect.Method;
+import java.lang.reflect.Modifier;
 import java.nio.file.Files;
 import java.nio.file.Path;
+import java.util.ArrayList;
+import java.util.Arrays;
+import java.util.List;
 import java.util.Set;
 import java.util.regex.Matcher;
 import java.util.regex.Pattern;
 
 /**
- * Looks through the source for what LANGUAGE.md rules out and a plain search can find. The path of
- * the source is the first argument.
+ * Looks for what LANGUAGE.md rules out: in the source, whose path is the first argument, by a plain
+ * search, and in the compiled classes by what they refer to.
  */
 public final class LanguageTest {
     private static final Pattern COMMENT_OR_TEXT = Pattern.compile("(?s)/\\*.*?\\*/|//[^\\n]*|\"(?:\\\\.|[^\"\\\\])*\"");
-    private static final Pattern LIBRARY_CALL = Pattern.compile("\\b([A-Z][a-z]\\w*)\\.([a-z]\\w*)\\(");
-    private static final Set<String> LIBRARY = Set.of("Integer.bitCount", "Long.bitCount", "System.arraycopy");
     private static final String[] FORBIDDEN = {
         "throw", "throws", "try", "catch", "synchronized", "assert", "import", "package", "protected", "native", "volatile",
         "transient", "strictfp", "float", "double", "this::", "->", "::", "Object", "equals", "hashCode", "toString",
         "Random", "Thread", "currentTimeMillis", "nanoTime",
     };
+    /** All that the class needs of what rule 4 lists; a nested class begins its constructor with Object's. */
+    private static final Set<String> LIBRARY = Set.of("java/lang/Object.<init>", "java/lang/String.length",
+        "java/lang/String.charAt", "java/lang/Integer.bitCount", "java/lang/Long.bitCount", "java/lang/System.arraycopy");
+    private static final String OWN = "ConflictEnumerator";
     private static final int METHOD_LINES = 60;
+    private static final int PARAMETERS = 7;
+    private static final int FIELDS = 20;
 
     private static boolean failed = false;
 
@@ -29,13 +40,14 @@ public final class LanguageTest {
             String pattern = Character.isLetter(word.charAt(0)) ? "\\b" + Pattern.quote(word) + "\\b" : Pattern.quote(word);
             refuse(Pattern.compile(pattern).matcher(code).find(), "the source has " + word);
         }
-        Matcher calls = LIBRARY_CALL.matcher(code);
-        while (calls.find()) {
-            String call = calls.group(1) + "." + calls.group(2);
-            refuse(!LIBRARY.contains(call), "the source calls " + call);
-        }
         refuse(!source.chars().allMatch(c -> c == '\n' || c >= 32 && c < 127), "the source has other signs than plain ones");
         methodLengths(source);
+        List<Class<?>> classes = new ArrayList<>(Arrays.asList(ConflictEnumerator.class.getDeclaredClasses()));
+        classes.add(ConflictEnumerator.class);
+        for (Class<?> type : classes) {
+            members(type);
+            references(type);
+        }
         if (failed) {
             System.exit(1);
         }
@@ -58,5 +70,32 @@ public final class LanguageTest {
             refuse(lines > METHOD_LINES, "a method of " + lines + " lines: " + methods.group().lines().findFirst().orElse(""));
         }
         refuse(seen < 40, "only " + seen + " methods were seen");
+    }
+
+    private static void members(Class<?> type) {
+        refuse(type.getDeclaredClasses().length > 0 && type != ConflictEnumerator.class, type + " has classes inside");
+        for (Method method : type.getDeclaredMethods()) {
+            refuse(method.getParameterCount() > PARAMETERS, method + " takes too many parameters");
+        }
+        for (Constructor<?> constructor : type.getDeclaredConstructors()) {
+            refuse(constructor.getParameterCount() > PARAMETERS, constructor + " takes too many parameters");
+        }
+        int fields = 0;
+        for (Field field : type.getDeclaredFields()) {
+            boolean isConstant = Modifier.isStatic(field.getModifiers());
+            refuse(isConstant && !Modifier.isFinal(field.getModifiers()), field + " is static and not final");
+            fields += isConstant ? 0 : 1;
+        }
+        refuse(fields > FIELDS, type + " has " + fields + " fields");
+    }
+
+    private static void references(Class<?> type) throws IOException {
+        ConstantPool pool = ConstantPool.of(type);
+        refuse(pool.hasDynamicCalls(), type + " has a lambda, a method reference or texts joined by +");
+        refuse(pool.uses().isEmpty(), type + " seems to use nothing at all");
+        for (String name : pool.uses()) {
+            boolean isOwn = name.startsWith(OWN + ".") || name.startsWith(OWN + "$");
+            refuse(!isOwn && !LIBRARY.contains(name), type + " uses " + name);
+        }
     }
 }
